@@ -882,28 +882,27 @@ public final class RiskDesk {
     }
 
     /**
-     * In which of the two discs with a and b on the rim p lies: LEFT, RIGHT (of the way from a to b), both or none.
+     * A place lies in which of the two discs with a and b on the rim: LEFT, RIGHT of the way from a to b, both or none.
+     * It is told from a on, as b is (dx, dy); apart is how far b is, squared, slack what 4 times the radius squared is
+     * more than that.
      *
-     * The midst is (a + b) / 2 and s times the left normal times sqrt(slack / apart) / 2, s 1 or -1; so p lies in the
-     * disc if dot times sqrt(apart) is not more than s times cross times sqrt(slack): squared, whole numbers decide.
+     * The midst is half the way to b and s times the left normal times sqrt(slack / apart) / 2, s 1 or -1; so the place
+     * lies in the disc if dot times sqrt(apart) is not more than s times cross times sqrt(slack): squared, whole
+     * numbers decide it.
      */
-    private static int sides(int dx, int dy, int fromX, int fromY, int radius) {
-        long apart = (long) dx * dx + (long) dy * dy;
-        long slack = 4L * radius * radius - apart;
-        if (apart == 0 || slack < 0) {
-            return 0;
+    private static int sides(int dx, int dy, int x, int y, int apart, int slack) {
+        long dot = (long) x * (x - dx) + (long) y * (y - dy);
+        long cross = (long) dx * y - (long) dy * x;
+        if (dot <= 0 && cross == 0) {
+            return LEFT | RIGHT;
         }
-        long dot = (long) fromX * (fromX - dx) + (long) fromY * (fromY - dy);
-        long cross = (long) dx * fromY - (long) dy * fromX;
         long inward = dot * dot * apart;
         long outward = cross * cross * slack;
+        int side = cross > 0 ? LEFT : RIGHT;
         if (dot <= 0) {
-            return (cross >= 0 || inward >= outward ? LEFT : 0) | (cross <= 0 || inward >= outward ? RIGHT : 0);
+            return inward >= outward ? LEFT | RIGHT : side;
         }
-        if (inward > outward) {
-            return 0;
-        }
-        return cross > 0 ? LEFT : RIGHT;
+        return inward <= outward ? side : 0;
     }
 
     // ---- classes inside ----
@@ -1263,21 +1262,23 @@ public final class RiskDesk {
             }
         }
 
+        /** A disc with p in it holds none that is farther from p than twice the radius. */
         void add(int p) {
             if (!isNumber(p)) {
                 return;
             }
+            members |= 1 << p;
+            int near = members & book.within(book.x[p], book.y[p], 2 * radius);
             for (int a = 0; a < POLICIES; a++) {
                 for (int b = a + 1; b < POLICIES; b++) {
-                    if (sets[a * POLICIES + b] != 0) {
+                    if (contains(near, a) && contains(near, b) && a != p && b != p) {
                         extend(a, b, p);
                     }
                 }
             }
-            members |= 1 << p;
             for (int b = 0; b < POLICIES; b++) {
-                if (contains(members, b)) {
-                    begin(p, b);
+                if (contains(near, b)) {
+                    begin(p, b, near);
                 }
             }
         }
@@ -1296,42 +1297,60 @@ public final class RiskDesk {
             }
         }
 
-        /** Two members at one place, or too far apart, have no disc with both on the rim: their sets stay empty. */
-        private void begin(int a, int b) {
+        /** Two members at one place have no disc of their own with both on the rim: their sets stay empty. */
+        private void begin(int a, int b, int near) {
             if (!isNumber(a) || !isNumber(b)) {
                 return;
             }
-            int apart = book.between(a, b);
+            int dx = book.x[b] - book.x[a];
+            int dy = book.y[b] - book.y[a];
+            int apart = dx * dx + dy * dy;
+            int slack = 4 * radius * radius - apart;
             if (apart <= radius * radius) {
                 sets[a * POLICIES + a] |= 1 << b;
                 sets[b * POLICIES + b] |= 1 << a;
             }
-            if (apart > 0 && apart <= 4 * radius * radius) {
-                for (int q = 0; q < POLICIES; q++) {
-                    if (contains(members, q)) {
-                        extend(a, b, q);
-                    }
-                }
-            }
-        }
-
-        private void extend(int a, int b, int q) {
-            if (!isNumber(a) || !isNumber(b)) {
+            if (apart == 0 || slack < 0) {
                 return;
             }
-            int in = sidesAt(a, b, book.xOf(q), book.yOf(q));
+            int left = 0;
+            int right = 0;
+            for (int q = 0; q < POLICIES; q++) {
+                if (contains(near, q)) {
+                    int in = sides(dx, dy, book.x[q] - book.x[a], book.y[q] - book.y[a], apart, slack);
+                    left |= (in & LEFT) != 0 ? 1 << q : 0;
+                    right |= (in & RIGHT) != 0 ? 1 << q : 0;
+                }
+            }
+            sets[a * POLICIES + b] = left;
+            sets[b * POLICIES + a] = right;
+        }
+
+        private void extend(int a, int b, int p) {
+            if (!isNumber(a) || !isNumber(b) || !isNumber(p)) {
+                return;
+            }
+            int in = sidesAt(a, b, book.x[p], book.y[p]);
             if ((in & LEFT) != 0) {
-                sets[a * POLICIES + b] |= 1 << q;
+                sets[a * POLICIES + b] |= 1 << p;
             }
             if ((in & RIGHT) != 0) {
-                sets[b * POLICIES + a] |= 1 << q;
+                sets[b * POLICIES + a] |= 1 << p;
             }
         }
 
         private int sidesAt(int a, int b, int x, int y) {
-            int ax = book.xOf(a);
-            int ay = book.yOf(a);
-            return sides(book.xOf(b) - ax, book.yOf(b) - ay, x - ax, y - ay, radius);
+            if (!isNumber(a) || !isNumber(b)) {
+                return 0;
+            }
+            int dx = book.x[b] - book.x[a];
+            int dy = book.y[b] - book.y[a];
+            int apart = dx * dx + dy * dy;
+            int slack = 4 * radius * radius - apart;
+            if (apart == 0 || slack < 0) {
+                return 0;
+            }
+            return sides(dx, dy, x - book.x[a], y - book.y[a], apart, slack);
         }
 
         int at(int i) {
@@ -1399,12 +1418,8 @@ public final class RiskDesk {
             }
             for (int a = 0; a < POLICIES; a++) {
                 for (int b = a + 1; b < POLICIES; b++) {
-                    int left = book.sums(sets[a * POLICIES + b] & reach);
-                    int right = book.sums(sets[b * POLICIES + a] & reach);
-                    if (left > most || right > most) {
-                        int in = sidesAt(a, b, x, y);
-                        most = Math.max(most, (in & LEFT) != 0 ? left : most);
-                        most = Math.max(most, (in & RIGHT) != 0 ? right : most);
+                    if (contains(reach, a) && contains(reach, b)) {
+                        most = Math.max(most, onOthers(a, b, x, y, reach, most));
                     }
                 }
             }
@@ -1413,16 +1428,37 @@ public final class RiskDesk {
 
         /** The greater sums of the two discs with the place and b on the rim. */
         private int onRim(int x, int y, int b, int some) {
+            int dx = book.xOf(b) - x;
+            int dy = book.yOf(b) - y;
+            int apart = dx * dx + dy * dy;
+            int slack = 4 * radius * radius - apart;
+            if (apart == 0 || slack < 0) {
+                return 0;
+            }
             int left = 0;
             int right = 0;
             for (int q = 0; q < POLICIES; q++) {
                 if (contains(some, q)) {
-                    int in = sides(book.xOf(b) - x, book.yOf(b) - y, book.xOf(q) - x, book.yOf(q) - y, radius);
+                    int in = sides(dx, dy, book.x[q] - x, book.y[q] - y, apart, slack);
                     left |= (in & LEFT) != 0 ? 1 << q : 0;
                     right |= (in & RIGHT) != 0 ? 1 << q : 0;
                 }
             }
             return Math.max(book.sums(left), book.sums(right));
+        }
+
+        /** The greater sums of the discs with a and b on the rim in which the place lies, if more than the floor. */
+        private int onOthers(int a, int b, int x, int y, int some, int floor) {
+            if (!isNumber(a) || !isNumber(b)) {
+                return floor;
+            }
+            int left = book.sums(sets[a * POLICIES + b] & some);
+            int right = book.sums(sets[b * POLICIES + a] & some);
+            if (left <= floor && right <= floor) {
+                return floor;
+            }
+            int in = sidesAt(a, b, x, y);
+            return Math.max((in & LEFT) != 0 ? left : floor, (in & RIGHT) != 0 ? right : floor);
         }
     }
 
