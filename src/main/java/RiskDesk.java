@@ -263,7 +263,9 @@ public final class RiskDesk {
             return LACKING;
         }
         treatyCount++;
-        it.open(perils, radius, limit);
+        it.agree(perils, radius, limit);
+        it.discs.fill(radius, book.ofPerils(perils));
+        it.findWorst();
         lookAt(t);
         return t;
     }
@@ -601,7 +603,7 @@ public final class RiskDesk {
     }
 
     private int heaviestOf(int set, int radius) {
-        discs.open(radius, set);
+        discs.fill(radius, set);
         return discs.heaviestAmong(ALL);
     }
 
@@ -609,7 +611,7 @@ public final class RiskDesk {
         if (!arePerils(perils) || !isRadius(radius) || what < 0 || what > 1) {
             return NONE;
         }
-        discs.open(radius, book.ofPerils(perils));
+        discs.fill(radius, book.ofPerils(perils));
         family.gather(discs);
         int both = family.heaviestTwo(book);
         return what == 0 ? book.sums(both) : both;
@@ -623,7 +625,7 @@ public final class RiskDesk {
         if (all == 0) {
             return 0;
         }
-        discs.open(radius, all);
+        discs.fill(radius, all);
         family.gather(discs);
         return family.fewestOver(all);
     }
@@ -1251,7 +1253,7 @@ public final class RiskDesk {
             this.book = book;
         }
 
-        void open(int ofRadius, int set) {
+        void fill(int ofRadius, int set) {
             radius = ofRadius;
             members = 0;
             Arrays.fill(sets, 0);
@@ -1269,13 +1271,7 @@ public final class RiskDesk {
             }
             members |= 1 << p;
             int near = members & book.within(book.x[p], book.y[p], 2 * radius);
-            for (int a = 0; a < POLICIES; a++) {
-                for (int b = a + 1; b < POLICIES; b++) {
-                    if (contains(near, a) && contains(near, b) && a != p && b != p) {
-                        extend(a, b, p);
-                    }
-                }
-            }
+            extend(p, near);
             for (int b = 0; b < POLICIES; b++) {
                 if (contains(near, b)) {
                     begin(p, b, near);
@@ -1294,6 +1290,22 @@ public final class RiskDesk {
             for (int b = 0; b < POLICIES; b++) {
                 sets[p * POLICIES + b] = 0;
                 sets[b * POLICIES + p] = 0;
+            }
+        }
+
+        /** Puts p into the discs that were there ahead of it. */
+        private void extend(int p, int near) {
+            if (!isNumber(p)) {
+                return;
+            }
+            for (int a = 0; a < POLICIES; a++) {
+                for (int b = a + 1; b < POLICIES; b++) {
+                    if (contains(near, a) && contains(near, b) && a != p && b != p) {
+                        int in = sidesAt(a, b, book.x[p], book.y[p]);
+                        sets[a * POLICIES + b] |= (in & LEFT) != 0 ? 1 << p : 0;
+                        sets[b * POLICIES + a] |= (in & RIGHT) != 0 ? 1 << p : 0;
+                    }
+                }
             }
         }
 
@@ -1324,19 +1336,6 @@ public final class RiskDesk {
             }
             sets[a * POLICIES + b] = left;
             sets[b * POLICIES + a] = right;
-        }
-
-        private void extend(int a, int b, int p) {
-            if (!isNumber(a) || !isNumber(b) || !isNumber(p)) {
-                return;
-            }
-            int in = sidesAt(a, b, book.x[p], book.y[p]);
-            if ((in & LEFT) != 0) {
-                sets[a * POLICIES + b] |= 1 << p;
-            }
-            if ((in & RIGHT) != 0) {
-                sets[b * POLICIES + a] |= 1 << p;
-            }
         }
 
         private int sidesAt(int a, int b, int x, int y) {
@@ -1462,6 +1461,7 @@ public final class RiskDesk {
         }
     }
 
+    /** A treaty; its discs follow its policies as they come, move and go. */
     private static final class Treaty {
         private final Book book;
         final Discs discs;
@@ -1478,14 +1478,12 @@ public final class RiskDesk {
             discs = new Discs(book);
         }
 
-        void open(int ofPerils, int ofRadius, int ofLimit) {
+        void agree(int ofPerils, int ofRadius, int ofLimit) {
             perils = ofPerils;
             radius = ofRadius;
             limit = ofLimit;
             alarm = LACKING;
             alarmsHad = 0;
-            discs.open(radius, book.ofPerils(perils));
-            findWorst();
         }
 
         boolean takes(int peril) {

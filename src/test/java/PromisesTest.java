@@ -16,6 +16,7 @@ public final class PromisesTest {
         test.treaties();
         test.worsts();
         test.bounds();
+        test.boundsOnOneRim();
         test.rings();
         test.lessOfAWorst();
         test.somePerils();
@@ -142,7 +143,11 @@ public final class PromisesTest {
 
     private void faults() {
         faulty("polizy 1 1 1 1;", 1, 0);
+        faulty("qolicy 1 1 1 1;", 1, 0);
+        faulty("policyz 1 1 1 1;", 1, 0);
+        faulty("policy1 1 1 1 1;", 1, 14);
         faulty("  Policy 1 1 1 1;", 1, 2);
+        faulty("policy 1z 1 1 1;", 1, 8);
         faulty(";", 1, 0);
         faulty("1", 1, 0);
         faulty("policy 1 1 1 1;;", 1, 15);
@@ -247,6 +252,9 @@ public final class PromisesTest {
         anew();
         due("treaty(15, 1, 17) = 0; write(0, 0, 8, 0) = 0; write(50, 0, 17, 0) = 1; write(0, 2, 9, 3) = 2");
         due("worst(0, 0) = 17; worst(0, 1) = 1; inWorst(0, 0) = 1; its(0, 5) = 0");
+        // one that lapses is of its treaties no more
+        due("its(0, 3) = 3; lapse(1) = 17; its(0, 3) = 2; its(0, 4) = 17; worst(0, 1) = 2; inWorst(0, 0) = 0; inWorst(0, 1) = 2");
+        due("write(0, 1, 1, 1) = 1; worst(0, 0) = 18; lapse(0) = 8; worst(0, 0) = 10; worst(0, 1) = 2; inWorst(0, 0) = 1; bound(0, 0) = 1");
         // three of which any two go together, but not all of them
         anew();
         due("write(100, 100, 1, 0) = 0; write(110, 100, 1, 0) = 1; write(105, 109, 1, 0) = 2; treaty(1, 5, 1) = 0");
@@ -279,6 +287,16 @@ public final class PromisesTest {
         due("bound(0, 0) = 0; bound(0, 1) = 2; bound(0, 2) = 0; worst(0, 0) = 3");
     }
 
+    /** All on the rim of the disc about 5, 5: an arc that goes on behind its two ends belongs to it as well. */
+    private void boundsOnOneRim() {
+        anew();
+        due("treaty(1, 5, 99) = 0; write(2, 1, 1, 0) = 0; write(8, 1, 1, 0) = 1; write(5, 0, 1, 0) = 2; write(5, 10, 1, 0) = 3");
+        due("worst(0, 1) = 4; bound(0, 0) = 0; bound(0, 1) = 1; bound(0, 2) = 0; about(0, 5, 5) = 4; about(0, 10, 5) = 4; about(0, 10, 6) = 3");
+        due("move(0, 8, 1) = 36; move(1, 2, 1) = 36; worst(0, 1) = 4; bound(0, 0) = 0; bound(0, 1) = 1; bound(0, 2) = 1");
+        due("move(2, 0, 5) = 50; worst(0, 1) = 4; move(2, 0, 4) = 1; worst(0, 1) = 3; move(2, 1, 2) = 5; worst(0, 1) = 4; bound(0, 1) = 1");
+        due("move(3, 5, 5) = 25; bound(0, 0) = 3; bound(0, 1) = -2");
+    }
+
     // ---- promise 17 ----
 
     private void rings() {
@@ -287,6 +305,9 @@ public final class PromisesTest {
         due("write(9, 9, 1, 1) = 0; write(3, 3, 1, 0) = 1; write(3, 3, 1, 0) = 2");
         due("ring(0, 0) = 0; ring(0, 1) = 1; ring(0, 2) = 1; ring(0, 3) = -2; ring(0, 4) = -2");
         due("write(4, 3, 1, 0) = 3; ring(0, 0) = 1; ring(0, 1) = 4; ring(0, 2) = 1; ring(0, 3) = 3; ring(0, 4) = -2");
+        due("move(1, 4, 3) = 1; move(2, 4, 3) = 1; ring(0, 0) = 0; ring(0, 2) = 1; lapse(1) = 1; ring(0, 2) = 2; write(4, 3, 1, 0) = 1");
+        due("move(1, 3, 3) = 1; move(2, 3, 3) = 1; change(0, 2) = 1; treaty(2, 1, 9) = 1; ring(1, 0) = 0; ring(1, 1) = 1; ring(1, 2) = 0; ring(1, 3) = -2");
+        due("write(9, 9, 1, 1) = 4; ring(1, 2) = 0; ring(1, 4) = -2");
         // a right angle: two are enough
         due("lapse(2) = 1; write(3, 5, 1, 0) = 2; ring(0, 0) = 5; ring(0, 1) = 4; ring(0, 2) = 2; ring(0, 3) = 3; ring(0, 4) = -2");
         anew();
@@ -316,6 +337,10 @@ public final class PromisesTest {
         due("part(0, MIN) = -1; part(0, MAX) = -1; second(0) = 25; relief(0, 0) = 0; relief(0, 1) = 25; fewest(0) = 1");
         due("change(2, 26) = 25; fewest(0) = 2; relief(0, 0) = 0; relief(0, 1) = 26; write(200, 0, 26, 0) = 4; fewest(0) = -2");
         due("limit(0, 29) = 25; fewest(0) = 1; limit(0, 30) = 29; fewest(0) = 0; second(0) = 26");
+        // one of WORST and one that is not
+        anew();
+        due("treaty(1, 5, 5) = 0; write(0, 0, 9, 0) = 0; write(100, 0, 8, 0) = 1; fewest(0) = 2; move(0, 100, 0) = 10000; move(1, 0, 0) = 10000");
+        due("change(0, 7) = 9; fewest(0) = 2; change(0, 6) = 7; limit(0, 6) = 5; fewest(0) = 1; limit(0, 8) = 6; fewest(0) = 0");
         // what remains may go together in another disc
         anew();
         due("treaty(1, 5, 1) = 0; write(10, 0, 9, 0) = 0; write(2, 0, 5, 0) = 1; write(18, 0, 5, 0) = 2");
@@ -357,6 +382,12 @@ public final class PromisesTest {
         due("write(0, 9, 1, 0) = 0; write(9, 0, 1, 0) = 1; write(9, 9, 1, 1) = 2");
         due("square(1, 9, 0) = 2; square(1, 9, 1) = 0; square(1, 9, 2) = 0; square(1, 8, 0) = 1; square(1, 8, 1) = 0; square(1, 8, 2) = 9");
         due("square(15, 0, 1) = 0; square(15, 0, 2) = 9");
+        // of like sums the least X, of these the least Y; only policies of these perils lend their X and Y
+        anew();
+        due("write(50, 20, 4, 0) = 0; write(10, 80, 4, 0) = 1; write(10, 30, 4, 0) = 2; write(5, 5, 3, 0) = 3; write(9, 29, 9, 1) = 4");
+        due("square(1, 1, 0) = 4; square(1, 1, 1) = 10; square(1, 1, 2) = 30; square(1, 44, 0) = 8; square(1, 44, 1) = 10; square(1, 44, 2) = 5");
+        due("square(1, 50, 0) = 11; square(1, 50, 1) = 5; square(1, 50, 2) = 5; square(3, 1, 0) = 13; square(3, 1, 1) = 9; square(3, 1, 2) = 29");
+        due("square(2, 299, 1) = 9; square(2, 299, 2) = 29; square(4, 299, 1) = -2; square(4, 299, 0) = 0");
         // cover: three discs, each of many
         anew();
         due("write(0, 0, 1, 0) = 0; write(2, 0, 1, 0) = 1; write(100, 0, 1, 0) = 2; write(102, 0, 1, 0) = 3; write(200, 0, 1, 0) = 4");
@@ -379,6 +410,11 @@ public final class PromisesTest {
         due("places(25, 0) = 99; places(3, 0) = 100; places(4, 0) = 99; places(26, 0) = 0; places(26, 1) = 100");
         due("treaty(3, 300, 30) = 1; most(3, 4, 0) = 3; most(100, 100, 0) = 8; most(100, 100, 1) = 8; most(3, 4, 1) = 8; places(9, 1) = 0; places(8, 1) = 100");
         due("limit(0, 22) = 25; most(3, 4, 0) = 0; limit(0, 21) = 22; most(200, 200, 0) = 0; places(1, 0) = 0; places(1, 1) = 100");
+        // the places are 0, 30, .. 270: one corner is out of each, and no others
+        anew();
+        due("treaty(1, 1, 10) = 0; write(0, 0, 10, 0) = 0; write(270, 270, 10, 0) = 1; write(30, 240, 10, 0) = 2; write(299, 299, 10, 0) = 3; places(1, 0) = 97");
+        due("move(0, 2, 0) = 4; places(1, 0) = 97; move(0, 3, 0) = 1; places(1, 0) = 98; move(1, 268, 270) = 4; places(1, 0) = 98; move(1, 267, 270) = 1");
+        due("places(1, 0) = 99; move(2, 60, 0) = 58500; places(1, 0) = 99; move(2, 60, 1) = 1; places(1, 0) = 99; move(2, 60, 3) = 4; places(1, 0) = 100");
         // a full desk is asked alike
         anew();
         due("treaty(1, 1, 99) = 0");
@@ -395,7 +431,7 @@ public final class PromisesTest {
         anew();
         due("nearest(0) = -1; couples(0) = 0; together(0, 1, 5) = -1; write(0, 0, 1, 0) = 0; nearest(0) = -2; couples(300) = 0");
         due("write(6, 8, 1, 1) = 1; write(0, 10, 1, 2) = 2; write(0, 0, 1, 3) = 3");
-        due("together(0, 1, 5) = 1; together(1, 0, 5) = 1; together(0, 1, 4) = 0; together(0, 3, 1) = 1; together(0, 0, 5) = -1");
+        due("together(0, 1, 5) = 1; together(1, 0, 5) = 1; together(0, 1, 4) = 0; move(1, 0, 11) = 45; together(0, 1, 5) = 0; move(1, 6, 8) = 45; together(0, 3, 1) = 1; together(0, 0, 5) = -1");
         due("together(0, 4, 5) = -1; together(-1, 0, 5) = -1; together(0, 1, 0) = -1; together(0, 1, 301) = -1; together(0, 1, 300) = 1");
         due("nearest(0) = 3; nearest(3) = 0; nearest(2) = 1; nearest(1) = 2; lapse(3) = 1; nearest(0) = 1; nearest(3) = -1; nearest(24) = -1");
         due("nearest(-1) = -1; nearest(MIN) = -1; couples(9) = 1; couples(10) = 3; couples(6) = 0; couples(7) = 1; couples(0) = 0");
@@ -417,7 +453,10 @@ public final class PromisesTest {
         due("along(1, 0, 0, 0, 1, 0) = -1; along(-1, 0, 0, 0, 1, 0) = -1; along(0, 3, 0, 0, 1, 0) = -1; along(0, -1, 0, 0, 1, 0) = -1");
         due("along(0, 0, 300, 0, 1, 0) = -1; along(0, 0, 0, -1, 1, 0) = -1; along(0, 0, 0, 0, 0, 0) = -1; along(0, 0, 0, 0, 21, 0) = -1");
         due("along(0, 0, 0, 0, 1, 2) = -1; along(0, 0, 0, 0, 1, -1) = -1; limit(0, 19) = 25; along(0, 0, 80, 0, 20, 1) = 0; along(0, 2, 80, 0, 20, 1) = 0");
-        due("policy(0, 0) = 0; count(4) = 10; its(0, 7) = 1; worst(0, 0) = 20");
+        // passed at the first place alone; the others alone as much as the limit is not passed
+        due("move(0, 90, 0) = 8100; its(0, 5) = 1; along(0, 0, 0, 0, 1, 1) = 0; along(0, 0, 0, 0, 1, 0) = 30; limit(0, 30) = 19; along(0, 0, 0, 0, 9, 1) = -2");
+        due("limit(0, 20) = 30; move(0, 0, 0) = 8100; along(0, 0, 50, 0, 9, 1) = -2; limit(0, 19) = 20");
+        due("policy(0, 0) = 0; count(4) = 12; its(0, 7) = 3; worst(0, 0) = 20");
     }
 
     // ---- promises 38 to 40 ----
@@ -439,6 +478,8 @@ public final class PromisesTest {
         anew();
         due("write(33, 0, 1, 0) = 0; write(66, 0, 2, 0) = 1; write(67, 0, 4, 0) = 2; storm(0, 0, 0, 100, 0, 3) = 2; hit(0) = 3; hit(2) = 2");
         due("storm(0, 100, 0, 0, 0, 3) = 2; hit(0) = 3; hit(2) = 1; hit(3) = 2; storm(0, 67, 0, 0, 0, 100) = 3");
+        due("move(0, 33, 200) = 40000; storm(0, 33, 200, 33, 100, 2) = 1; storm(0, 33, 0, 33, 299, 1) = 0; storm(0, 33, 101, 33, 299, 2) = 1");
+        due("move(0, 33, 0) = 40000");
         // the first place of like sums
         due("storm(1, 66, 0, 67, 0, 1) = 2; hit(2) = 0; hit(3) = 6");
     }
