@@ -6,6 +6,7 @@ public final class RiskDesk {
     public static final int NONE = -1;
 
     private static final int LACKING = -2;
+    private static final int NO_SUCH = -2147483648;
     private static final int POLICIES = 24;
     private static final int TREATIES = 6;
     private static final int PLACES = 300;
@@ -289,7 +290,7 @@ public final class RiskDesk {
     public int worst(int t, int what) {
         Treaty it = treatyAt(t);
         if (it == null) {
-            return Integer.MIN_VALUE;
+            return NO_SUCH;
         }
         switch (what) {
             case 0:
@@ -299,7 +300,7 @@ public final class RiskDesk {
             case 2:
                 return it.limit - it.worstSums;
             default:
-                return Integer.MIN_VALUE;
+                return NO_SUCH;
         }
     }
 
@@ -799,7 +800,7 @@ public final class RiskDesk {
     }
 
     private static int drawnAfter(int x) {
-        return (int) ((x * 1103515245L + 12345L) & Integer.MAX_VALUE);
+        return (int) ((x * 1103515245L + 12345L) & 2147483647);
     }
 
     // ---- what has been ----
@@ -809,7 +810,7 @@ public final class RiskDesk {
     }
 
     public int act(int i, int what) {
-        return i < 0 || what < 0 || what > 2 ? Integer.MIN_VALUE : acts.latest(i, what);
+        return i < 0 || what < 0 || what > 2 ? NO_SUCH : acts.latest(i, what);
     }
 
     public int count(int what) {
@@ -1780,7 +1781,7 @@ public final class RiskDesk {
 
         int latest(int i, int what) {
             if (i < 0 || i >= KEPT || i >= count) {
-                return Integer.MIN_VALUE;
+                return NO_SUCH;
             }
             int slot = Math.floorMod(count - 1 - i, KEPT);
             return what == 0 ? kinds[slot] : what == 1 ? policies[slot] : mores[slot];
