@@ -31,8 +31,8 @@ public final class RiskDesk {
     private final Book book;
     private final Treaty[] treaties;
     private int treatyCount;
-    private final Acts acts;
-    private final Alarms alarms;
+    private final Records acts;
+    private final Records alarms;
     private final Track track;
     private final Discs discs;
     private final Family family;
@@ -46,8 +46,8 @@ public final class RiskDesk {
         for (int t = 0; t < TREATIES; t++) {
             treaties[t] = new Treaty(book);
         }
-        acts = new Acts();
-        alarms = new Alarms();
+        acts = new Records(NO_SUCH);
+        alarms = new Records(LACKING);
         track = new Track();
         discs = new Discs(book);
         family = new Family();
@@ -987,41 +987,29 @@ public final class RiskDesk {
             int start = at;
             passWord();
             if (spells(start, "policy")) {
-                readPolicy(start);
+                readNumbers(start, policies, policyNumbers, LEAST_OF_POLICY, MOST_OF_POLICY);
+                policies++;
             } else if (spells(start, "treaty")) {
-                readTreaty(start);
+                readNumbers(start, treaties, treatyNumbers, LEAST_OF_TREATY, MOST_OF_TREATY);
+                treaties++;
             } else {
                 complain(MISPLACED, start);
             }
             readEnd();
         }
 
-        private void readPolicy(int start) {
-            if (policies >= POLICIES) {
+        /** The numbers of a line go behind those of the lines of its kind that were ahead of it. */
+        private void readNumbers(int start, int ahead, int[] numbers, int[] least, int[] most) {
+            int first = ahead * least.length;
+            if (first >= numbers.length) {
                 complain(TOO_MUCH, start);
             }
-            for (int i = 0; i < OF_POLICY && fault == 0; i++) {
-                int slot = policies * OF_POLICY + i;
-                int number = readNumber(LEAST_OF_POLICY[i], MOST_OF_POLICY[i]);
-                if (slot >= 0 && slot < policyNumbers.length) {
-                    policyNumbers[slot] = number;
+            for (int i = 0; i < least.length && i < most.length && fault == 0; i++) {
+                int number = readNumber(least[i], most[i]);
+                if (first + i >= 0 && first + i < numbers.length) {
+                    numbers[first + i] = number;
                 }
             }
-            policies++;
-        }
-
-        private void readTreaty(int start) {
-            if (treaties >= TREATIES) {
-                complain(TOO_MUCH, start);
-            }
-            for (int i = 0; i < OF_TREATY && fault == 0; i++) {
-                int slot = treaties * OF_TREATY + i;
-                int number = readNumber(LEAST_OF_TREATY[i], MOST_OF_TREATY[i]);
-                if (slot >= 0 && slot < treatyNumbers.length) {
-                    treatyNumbers[slot] = number;
-                }
-            }
-            treaties++;
         }
 
         private int readNumber(int least, int most) {
@@ -1248,6 +1236,8 @@ public final class RiskDesk {
         private final Book book;
         private final int[] sets = new int[WAYS];
         private int radius;
+        private int left;
+        private int right;
         int members;
 
         Discs(Book book) {
@@ -1272,10 +1262,17 @@ public final class RiskDesk {
             }
             members |= 1 << p;
             int near = members & book.within(book.x[p], book.y[p], 2 * radius);
+            int nearest = members & book.within(book.x[p], book.y[p], radius);
             extend(p, near);
             for (int b = 0; b < POLICIES; b++) {
                 if (contains(near, b)) {
-                    begin(p, b, near);
+                    holdBoth(book.x[p], book.y[p], b, near);
+                    sets[p * POLICIES + b] |= left;
+                    sets[b * POLICIES + p] |= right;
+                }
+                if (contains(nearest, b)) {
+                    sets[p * POLICIES + p] |= 1 << b;
+                    sets[b * POLICIES + b] |= 1 << p;
                 }
             }
         }
@@ -1310,33 +1307,24 @@ public final class RiskDesk {
             }
         }
 
-        /** Two members at one place have no disc of their own with both on the rim: their sets stay empty. */
-        private void begin(int a, int b, int near) {
-            if (!isNumber(a) || !isNumber(b)) {
+        /** What the two discs with the place and b on the rim hold of some members; nothing, if there are none such. */
+        private void holdBoth(int x, int y, int b, int some) {
+            left = 0;
+            right = 0;
+            if (!isNumber(b)) {
                 return;
             }
-            int dx = book.x[b] - book.x[a];
-            int dy = book.y[b] - book.y[a];
+            int dx = book.x[b] - x;
+            int dy = book.y[b] - y;
             int apart = dx * dx + dy * dy;
             int slack = 4 * radius * radius - apart;
-            if (apart <= radius * radius) {
-                sets[a * POLICIES + a] |= 1 << b;
-                sets[b * POLICIES + b] |= 1 << a;
-            }
-            if (apart == 0 || slack < 0) {
-                return;
-            }
-            int left = 0;
-            int right = 0;
-            for (int q = 0; q < POLICIES; q++) {
-                if (contains(near, q)) {
-                    int in = sides(dx, dy, book.x[q] - book.x[a], book.y[q] - book.y[a], apart, slack);
+            for (int q = 0; q < POLICIES && apart > 0 && slack >= 0; q++) {
+                if (contains(some, q)) {
+                    int in = sides(dx, dy, book.x[q] - x, book.y[q] - y, apart, slack);
                     left |= (in & LEFT) != 0 ? 1 << q : 0;
                     right |= (in & RIGHT) != 0 ? 1 << q : 0;
                 }
             }
-            sets[a * POLICIES + b] = left;
-            sets[b * POLICIES + a] = right;
         }
 
         private int sidesAt(int a, int b, int x, int y) {
@@ -1413,7 +1401,8 @@ public final class RiskDesk {
             }
             for (int b = 0; b < POLICIES; b++) {
                 if (contains(reach, b)) {
-                    most = Math.max(most, onRim(x, y, b, reach));
+                    holdBoth(x, y, b, reach);
+                    most = Math.max(most, Math.max(book.sums(left), book.sums(right)));
                 }
             }
             for (int a = 0; a < POLICIES; a++) {
@@ -1426,39 +1415,18 @@ public final class RiskDesk {
             return most;
         }
 
-        /** The greater sums of the two discs with the place and b on the rim. */
-        private int onRim(int x, int y, int b, int some) {
-            int dx = book.xOf(b) - x;
-            int dy = book.yOf(b) - y;
-            int apart = dx * dx + dy * dy;
-            int slack = 4 * radius * radius - apart;
-            if (apart == 0 || slack < 0) {
-                return 0;
-            }
-            int left = 0;
-            int right = 0;
-            for (int q = 0; q < POLICIES; q++) {
-                if (contains(some, q)) {
-                    int in = sides(dx, dy, book.x[q] - x, book.y[q] - y, apart, slack);
-                    left |= (in & LEFT) != 0 ? 1 << q : 0;
-                    right |= (in & RIGHT) != 0 ? 1 << q : 0;
-                }
-            }
-            return Math.max(book.sums(left), book.sums(right));
-        }
-
         /** The greater sums of the discs with a and b on the rim in which the place lies, if more than the floor. */
         private int onOthers(int a, int b, int x, int y, int some, int floor) {
             if (!isNumber(a) || !isNumber(b)) {
                 return floor;
             }
-            int left = book.sums(sets[a * POLICIES + b] & some);
-            int right = book.sums(sets[b * POLICIES + a] & some);
-            if (left <= floor && right <= floor) {
+            int onLeft = book.sums(sets[a * POLICIES + b] & some);
+            int onRight = book.sums(sets[b * POLICIES + a] & some);
+            if (onLeft <= floor && onRight <= floor) {
                 return floor;
             }
             int in = sidesAt(a, b, x, y);
-            return Math.max((in & LEFT) != 0 ? left : floor, (in & RIGHT) != 0 ? right : floor);
+            return Math.max((in & LEFT) != 0 ? onLeft : floor, (in & RIGHT) != 0 ? onRight : floor);
         }
     }
 
@@ -1764,51 +1732,34 @@ public final class RiskDesk {
         }
     }
 
-    /** The latest ACTS, each at its number modulo how many are kept. */
-    private static final class Acts {
-        private final int[] kinds = new int[KEPT];
-        private final int[] policies = new int[KEPT];
-        private final int[] mores = new int[KEPT];
+    /** Rows of three numbers; the latest stay, each where its own number modulo how many are kept puts it. */
+    private static final class Records {
+        private static final int PARTS = 3;
+
+        private final int[] parts = new int[KEPT * PARTS];
+        private final int lacking;
         int count;
 
-        void note(int kind, int p, int more) {
-            int slot = Math.floorMod(count, KEPT);
-            kinds[slot] = kind;
-            policies[slot] = p;
-            mores[slot] = more;
-            count++;
+        Records(int lacking) {
+            this.lacking = lacking;
         }
 
-        int latest(int i, int what) {
-            if (i < 0 || i >= KEPT || i >= count) {
-                return NO_SUCH;
+        void note(int first, int second, int third) {
+            int at = count % KEPT * PARTS;
+            if (at >= 0 && at + 2 < parts.length) {
+                parts[at] = first;
+                parts[at + 1] = second;
+                parts[at + 2] = third;
+                count++;
             }
-            int slot = Math.floorMod(count - 1 - i, KEPT);
-            return what == 0 ? kinds[slot] : what == 1 ? policies[slot] : mores[slot];
-        }
-    }
-
-    /** The latest ALARMS, kept as ACTS are. */
-    private static final class Alarms {
-        private final int[] treaties = new int[KEPT];
-        private final int[] acts = new int[KEPT];
-        private final int[] worsts = new int[KEPT];
-        int count;
-
-        void note(int t, int act, int worst) {
-            int slot = Math.floorMod(count, KEPT);
-            treaties[slot] = t;
-            acts[slot] = act;
-            worsts[slot] = worst;
-            count++;
         }
 
-        int latest(int i, int what) {
+        int latest(int i, int part) {
             if (i < 0 || i >= KEPT || i >= count) {
-                return LACKING;
+                return lacking;
             }
-            int slot = Math.floorMod(count - 1 - i, KEPT);
-            return what == 0 ? treaties[slot] : what == 1 ? acts[slot] : worsts[slot];
+            int at = (count - 1 - i) % KEPT * PARTS + part;
+            return at >= 0 && at < parts.length ? parts[at] : lacking;
         }
     }
 }
