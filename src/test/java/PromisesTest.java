@@ -1,92 +1,30 @@
 /** Each promise by calls whose answers are known: ordinary ones, the edges that the document names, refused ones. */
-public final class PromisesTest {
-    private static final int MIN = Integer.MIN_VALUE;
-    private static final int MAX = Integer.MAX_VALUE;
-
-    private int wrong;
-    private int asked;
-    private RiskDesk d;
-
+public final class PromisesTest extends Bench {
     public static void main(String[] args) {
-        PromisesTest test = new PromisesTest();
-        test.newObject();
-        test.feedAndText();
-        test.faults();
-        test.acts();
-        test.treaties();
-        test.worsts();
-        test.bounds();
-        test.boundsOnOneRim();
-        test.rings();
-        test.lessOfAWorst();
-        test.somePerils();
-        test.oneMore();
-        test.nearAndFar();
-        test.along();
-        test.storms();
-        test.drawn();
-        test.histories();
-        test.refusedCallsChangeNothing();
-        test.largest();
-        System.out.println(test.asked + " answers asked, " + test.wrong + " not as due");
-        if (test.wrong != 0) System.exit(1);
+        new PromisesTest().end();
     }
 
-    /** The calls of a line, each with its answer: "worst(0, 1) = 2; count(0) = 3". */
-    private void due(String calls) {
-        for (String line : calls.split(";")) {
-            String call = line.trim();
-            if (call.isEmpty()) continue;
-            String[] sides = call.split("=");
-            String name = sides[0].substring(0, sides[0].indexOf('(')).trim();
-            String inside = sides[0].substring(sides[0].indexOf('(') + 1, sides[0].indexOf(')')).trim();
-            String[] parts = inside.isEmpty() ? new String[0] : inside.split(",");
-            int[] a = new int[parts.length];
-            for (int i = 0; i < a.length; i++) a[i] = (int) number(parts[i]);
-            long want = number(sides[1]);
-            long got = Calls.ofDesk(d, name, a);
-            asked++;
-            if (got != want) {
-                wrong++;
-                System.out.println(sides[0].trim() + " answered " + got + ", due is " + want);
-            }
-        }
-    }
-
-    private static long number(String text) {
-        switch (text.trim()) {
-            case "MIN": return MIN;
-            case "MAX": return MAX;
-            case "OUT": return PlainDesk.OUT_OF_BOUNDS;
-            case "NOSUCH": return PlainDesk.NO_SUCH_ELEMENT;
-            default: return Long.parseLong(text.trim());
-        }
-    }
-
-    private void anew() {
-        d = new RiskDesk();
-    }
-
-    /** Feeds a text, with blanks behind it up to a multiple of twenty, and reads it. */
-    private int tell(String text) {
-        feed(text);
-        return d.text(text.length());
-    }
-
-    private void feed(String text) {
-        for (int i = 0; i < text.length(); i += 20) {
-            int[] a = new int[5];
-            for (int j = 0; j < 20; j++) a[j / 4] = a[j / 4] << 8 | (i + j < text.length() ? text.charAt(i + j) : ' ');
-            d.feed(a[0], a[1], a[2], a[3], a[4]);
-        }
-    }
-
-    private void same(String what, long got, long want) {
-        asked++;
-        if (got != want) {
-            wrong++;
-            System.out.println(what + " answered " + got + ", due is " + want);
-        }
+    @Override
+    void all() {
+        newObject();
+        feedAndText();
+        faults();
+        acts();
+        treaties();
+        worsts();
+        bounds();
+        boundsOnOneRim();
+        rings();
+        lessOfAWorst();
+        somePerils();
+        oneMore();
+        nearAndFar();
+        along();
+        storms();
+        drawn();
+        histories();
+        refusedCallsChangeNothing();
+        largest();
     }
 
     // ---- promise 1 ----
@@ -134,14 +72,8 @@ public final class PromisesTest {
 
     // ---- promise 4 ----
 
-    private void faulty(String text, int what, int place) {
-        anew();
-        same("[" + text + "]", tell(text), -1);
-        same("[" + text + "] fault", d.fault(0), what);
-        same("[" + text + "] place", d.fault(1), place);
-    }
-
     private void faults() {
+        anew();
         faulty("polizy 1 1 1 1;", 1, 0);
         faulty("qolicy 1 1 1 1;", 1, 0);
         faulty("policyz 1 1 1 1;", 1, 0);
