@@ -8,7 +8,6 @@ final class EdgesOfTerms extends Edges {
         alarmsOfActs();
         stormsAndDiscs();
         order();
-        lastCall();
     }
 
     // ---- Terms 1 ----
@@ -467,14 +466,5 @@ final class EdgesOfTerms extends Edges {
             due("limit(0, 10000000) = -1; limit(0, 0) = -1; text(21) = -2; text(-1) = -2; storm(301, 9, 9, 9, 9, 2) = -1");
             due("storm(2, 9, 9, 9, 9, 101) = -1");
         }
-    }
-
-    /** What the document says ahead of its Terms: an object is used for at most 512 calls. */
-    private void lastCall() {
-        anew("An object is used for at most 512 calls after it has been made");
-        due("treaty(1, 1, 10) = 0; write(0, 0, 1, 0) = 0");
-        for (int i = 0; i < 250; i++) due("change(0, 11) = 1; change(0, 1) = 11");
-        due("act(0, 2) = -10; act(29, 2) = 10; act(30, 0) = MIN; alarm(0, 1) = 500; alarm(29, 1) = 442; alarm(30, 1) = -2");
-        due("its(0, 7) = 250; worst(0, 0) = 1; most(0, 0, 0) = 9; count(4) = 501");
     }
 }

@@ -7,8 +7,8 @@ import java.nio.file.Path;
  * that the document doesn't have.
  */
 public final class EdgesTest extends Edges {
-    private final Edges[] parts = {new EdgesOfTerms(), new EdgesOfPolicies(), new EdgesOfWorst(), new EdgesOfPerils(),
-        new EdgesOfOneMore(), new EdgesOfStorms()};
+    private final Edges[] parts = {new EdgesOfWhatItIs(), new EdgesOfTerms(), new EdgesOfPolicies(), new EdgesOfWorst(),
+        new EdgesOfPerils(), new EdgesOfOneMore(), new EdgesOfStorms()};
 
     public static void main(String[] args) throws IOException {
         EdgesTest test = new EdgesTest();

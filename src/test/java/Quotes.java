@@ -3,7 +3,7 @@ import java.util.List;
 import java.util.Map;
 import java.util.TreeMap;
 
-/** Which words of the document are quoted, and which aren't: T1, T2, T3 are its Terms, a number is a promise. */
+/** Which words of the document are quoted, and which aren't: W is What it is, T1, T2, T3 its Terms, a number a promise. */
 final class Quotes {
     private final Map<String, String> sections = new TreeMap<>();
     private final Map<String, boolean[]> quoted = new TreeMap<>();
@@ -12,6 +12,7 @@ final class Quotes {
     Quotes(String document) {
         if (document.isEmpty()) return;
         String all = document.replace("```text", " ").replace("```", " ").replaceAll("\\s+", " ");
+        put("W", all.substring(all.indexOf("## What it is") + 13, all.indexOf("## The public face")));
         for (int i = 1; i <= 3; i++) {
             String next = i < 3 ? "==== " + (i + 1) + ". " : "## Promise 1:";
             put("T" + i, all.substring(all.indexOf("==== " + i + ". ") + 8, all.indexOf(next)));
