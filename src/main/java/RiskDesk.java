@@ -515,19 +515,17 @@ public final class RiskDesk {
         return true;
     }
 
+    /** At place 0 it stands where it is, so WORST is there what it is now. */
     public int along(int t, int p, int x, int y, int n, int what) {
         Treaty it = treatyAt(t);
         if (it == null || !book.has(p) || !isPlace(x, y) || n < 1 || n > 20 || what < 0 || what > 1) {
             return NONE;
         }
-        if (!it.takes(book.perilOf(p))) {
-            return what == 0 ? it.worstSums : it.isPassed() ? 0 : LACKING;
-        }
         int others = ALL & ~(1 << p);
         int sum = book.sumOf(p);
-        int most = it.worstWithout(1 << p);
-        int first = most > it.limit ? 0 : LACKING;
-        for (int k = 0; k <= n; k++) {
+        int most = it.worstSums;
+        int first = it.isPassed() ? 0 : LACKING;
+        for (int k = 1; k <= n && it.takes(book.perilOf(p)); k++) {
             int onX = onWay(book.xOf(p), x, k, n);
             int onY = onWay(book.yOf(p), y, k, n);
             most = Math.max(most, it.discs.joined(onX, onY, others, most - sum) + sum);
@@ -571,19 +569,16 @@ public final class RiskDesk {
         }
     }
 
-    /** Each round takes one policy whose neighbours have not been taken: no more rounds than policies. */
+    /** A round that adds none is the last one: no more rounds than policies. */
     private int chainFrom(int start, int among, int radius) {
         int chain = 1 << start;
-        int done = 0;
-        for (int round = 0; round < POLICIES; round++) {
+        int before = 0;
+        for (int round = 0; round < POLICIES && chain != before; round++) {
+            before = chain;
             for (int p = 0; p < POLICIES; p++) {
-                if (contains(chain & ~done, p)) {
-                    done |= 1 << p;
+                if (contains(chain, p)) {
                     chain |= among & book.within(book.xOf(p), book.yOf(p), radius);
                 }
-            }
-            if (done == chain) {
-                return chain;
             }
         }
         return chain;
@@ -896,9 +891,6 @@ public final class RiskDesk {
     private static int sides(int dx, int dy, int x, int y, int apart, int slack) {
         long dot = (long) x * (x - dx) + (long) y * (y - dy);
         long cross = (long) dx * y - (long) dy * x;
-        if (dot <= 0 && cross == 0) {
-            return LEFT | RIGHT;
-        }
         long inward = dot * dot * apart;
         long outward = cross * cross * slack;
         int side = cross > 0 ? LEFT : RIGHT;
@@ -1029,16 +1021,15 @@ public final class RiskDesk {
         }
 
         private void readEnd() {
-            if (fault == 0) {
-                skipBlanks();
-                if (at < length && tape.at(at) == ';') {
-                    at++;
-                } else {
-                    complain(MISPLACED, at);
-                }
+            skipBlanks();
+            if (at < length && tape.at(at) == ';') {
+                at++;
+            } else {
+                complain(MISPLACED, at);
             }
         }
 
+        /** The first fault stays. */
         private void complain(int what, int where) {
             if (fault == 0) {
                 fault = what;

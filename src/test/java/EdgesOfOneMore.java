@@ -47,7 +47,15 @@ final class EdgesOfOneMore extends Edges {
                 // one of another peril is not of the treaty's; three of which the place goes with any two
                 "write(15, 10, 50, 1) = 2; about(0, 15, 10) = 7; lapse(2) = 50; write(15, 18, 5, 0) = 2; about(0, 15, 13) = 9",
                 "about(0, 15, 19) = 5; about(0, 18, 14) = 9; about(0, 12, 14) = 9; about(0, 11, 14) = 8; treaty(1, 6, 9) = 1",
-                "about(1, 15, 13) = 12");
+                "about(1, 15, 13) = 12",
+                // the place goes with two of three that go together themselves, on each side of the way from one to the other
+                "anew", "treaty(1, 3, 9) = 0; write(0, 1, 2, 0) = 0; write(6, 1, 2, 0) = 1; write(3, 1, 2, 0) = 2; about(0, 1, 4) = 4",
+                "anew", "treaty(1, 6, 9) = 0; write(14, 6, 2, 0) = 0; write(16, 4, 2, 0) = 1; write(11, 11, 1, 0) = 2",
+                "about(0, 4, 4) = 4; worst(0, 0) = 5",
+                "anew", "treaty(1, 6, 9) = 0; write(6, 7, 2, 0) = 0; write(11, 9, 2, 0) = 1; write(1, 9, 1, 0) = 2",
+                "about(0, 8, 0) = 4; worst(0, 0) = 5",
+                "anew", "treaty(1, 4, 9) = 0; write(3, 3, 1, 0) = 0; write(2, 6, 2, 0) = 1; write(0, 8, 2, 0) = 2",
+                "about(0, 8, 8) = 4; worst(0, 0) = 5");
         anew();
         // of 24 some with numbers far from one another
         int[][] those = {{1, 1, 6, 1}, {4, 10, 7, 9}, {7, 3, 0, 4}, {8, 10, 6, 4}, {17, 5, 4, 5}, {18, 2, 2, 8}, {21, 3, 8, 6},

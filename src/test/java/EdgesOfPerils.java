@@ -135,7 +135,10 @@ final class EdgesOfPerils extends Edges {
                 // the heaviest one in the midst goes wrong: three of two
                 "anew", "write(0, 0, 1, 0) = 0; write(10, 0, 9, 0) = 1; write(20, 0, 9, 0) = 2; write(30, 0, 1, 0) = 3",
                 "write(40, 0, 1, 0) = 4; write(50, 0, 1, 0) = 5; cover(1, 5) = 3; move(5, 51, 0) = 1; cover(1, 5) = -2",
-                "cover(1, 6) = 3");
+                "cover(1, 6) = 3",
+                // 0, 2 and 3 in one, 1 and 4 each alone
+                "anew", "write(8, 0, 1, 0) = 0; write(5, 6, 1, 0) = 1; write(7, 0, 1, 0) = 2; write(10, 1, 1, 0) = 3",
+                "write(2, 1, 1, 0) = 4; cover(1, 2) = 3; cover(1, 1) = -2");
         // 7 goes with another one, then parts from it, and all ahead of these lapse: what went together before doesn't any more
         String seven = "write(0, 0, 1, 0) = 0; write(30, 0, 1, 0) = 1; write(60, 0, 1, 0) = 2; write(90, 0, 1, 0) = 3; "
                 + "write(120, 0, 1, 0) = 4; write(150, 0, 1, 0) = 5; write(180, 0, 1, 0) = 6; ";

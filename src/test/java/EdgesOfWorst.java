@@ -111,6 +111,9 @@ final class EdgesOfWorst extends Edges {
                 "treaty(1, 300, 9) = 0; write(5, 5, 1, 0) = 0; write(9, 5, 1, 0) = 1; write(0, 5, 1, 0) = 2",
                 "write(10, 5, 1, 0) = 3; write(10, 5, 1, 0) = 4; ring(0, 0) = 25; ring(0, 2) = 2; ring(0, 3) = 3",
                 "ring(0, 4) = -2",
+                // though 0, 2, 3 are three of the other kind
+                "anew", "treaty(1, 4, 9) = 0; write(1, 6, 1, 0) = 0; write(3, 8, 1, 0) = 1; write(6, 1, 1, 0) = 2",
+                "write(6, 8, 1, 0) = 3; ring(0, 0) = 29; ring(0, 1) = 2; ring(0, 2) = 1; ring(0, 3) = 2; ring(0, 4) = -2",
                 // a right angle; two diameters; both with one at the same place
                 "anew", "treaty(1, 300, 9) = 0; write(0, 0, 1, 0) = 0; write(6, 0, 1, 0) = 1; write(0, 8, 1, 0) = 2; ring(0, 0) = 25",
                 "ring(0, 1) = 1; ring(0, 2) = 1; ring(0, 3) = 2; ring(0, 4) = -2",

@@ -2,9 +2,12 @@ import com.sun.source.tree.BinaryTree;
 import com.sun.source.tree.CompilationUnitTree;
 import com.sun.source.tree.ConditionalExpressionTree;
 import com.sun.source.tree.ExpressionStatementTree;
+import com.sun.source.tree.IdentifierTree;
 import com.sun.source.tree.IfTree;
 import com.sun.source.tree.LiteralTree;
 import com.sun.source.tree.MethodInvocationTree;
+import com.sun.source.tree.MethodTree;
+import com.sun.source.tree.ReturnTree;
 import com.sun.source.tree.Tree;
 import com.sun.source.tree.UnaryTree;
 import com.sun.source.util.JavacTask;
@@ -29,8 +32,8 @@ import javax.tools.StandardJavaFileManager;
 import javax.tools.ToolProvider;
 
 /**
- * Breaks the program in one place at a time (a comparison, a number, a statement left out) and names the breaks that no
- * test notices: each of them has to be one that changes no answer. Not part of .ci/run: it takes some minutes.
+ * Breaks the program in one place at a time (a comparison, a number, one name for another, a statement left out) and names
+ * the breaks that no test notices: each of them has to be one that changes no answer. Not part of .ci/run: it takes some minutes.
  *
  * java -cp build/own Mutants [the name of a test, ..]
  */
@@ -39,8 +42,17 @@ public final class Mutants extends TreeScanner<Void, Void> {
     /** The first argument of a process that runs the tests one behind another on a broken program. */
     private static final String TESTS = "--tests";
     private static final Map<String, String[]> INSTEAD = new HashMap<>();
+    private static final Map<String, String> TWIN = new HashMap<>();
+    private static final Map<String, String> VALUE = Map.of("NONE", "-1", "LACKING", "-2");
 
     static {
+        for (String pair : List.of("x y", "dx dy", "toX toY", "atX atY", "onX onY", "fromX fromY", "midX midY", "leastX leastY",
+            "p q", "a b", "left right", "first second", "above below", "LEFT RIGHT", "i n", "from to", "least most", "xOf yOf",
+            "inForce ALL", "acts alarms", "worstSet worstSums", "limit radius", "near nearest", "kept size", "start at")) {
+            String[] two = pair.split(" ");
+            TWIN.put(two[0], two[1]);
+            TWIN.put(two[1], two[0]);
+        }
         String[][] all = {{"<", "<=", ">="}, {"<=", "<", ">"}, {">", ">=", "<="}, {">=", ">", "<"}, {"==", "!="}, {"!=", "=="},
             {"+", "-"}, {"-", "+"}, {"*", "+"}, {"/", "*"}, {"%", "*"}, {"&&", "||"}, {"||", "&&"}, {"&", "|"}, {"|", "&"},
             {"<<", ">>>"}, {">>>", "<<"}};
@@ -51,6 +63,7 @@ public final class Mutants extends TreeScanner<Void, Void> {
     private final CompilationUnitTree unit;
     private final String source;
     private final List<String[]> mutants = new ArrayList<>();
+    private MethodTree method;
 
     private Mutants(JavacTask task, CompilationUnitTree unit, String source) {
         places = Trees.instance(task).getSourcePositions();
@@ -121,11 +134,13 @@ public final class Mutants extends TreeScanner<Void, Void> {
     }
 
     private void replace(int from, int to, String by) {
+        String was = source.substring(from, to);
+        if (by.equals(was) || by.equals(VALUE.get(was))) return;
         long line = unit.getLineMap().getLineNumber(from);
         int first = (int) unit.getLineMap().getStartPosition(line);
         int last = source.indexOf('\n', to);
         String mutant = source.substring(0, from) + by + source.substring(to);
-        String shown = source.substring(first, from) + "[" + source.substring(from, to) + " -> " + by + "]" + source.substring(to, last);
+        String shown = source.substring(first, from) + "[" + was + " -> " + by + "]" + source.substring(to, last);
         mutants.add(new String[] {line + ": " + shown.trim().replaceAll("\\s+", " "), mutant});
     }
 
@@ -161,6 +176,29 @@ public final class Mutants extends TreeScanner<Void, Void> {
         replace(start(node.getCondition()), end(node.getCondition()), "(1 > 0)");
         replace(start(node.getCondition()), end(node.getCondition()), "(1 < 0)");
         return super.visitIf(node, v);
+    }
+
+    @Override
+    public Void visitMethod(MethodTree node, Void v) {
+        method = node;
+        return super.visitMethod(node, v);
+    }
+
+    @Override
+    public Void visitReturn(ReturnTree node, Void v) {
+        if (node.getExpression() != null) {
+            boolean test = method.getReturnType().toString().equals("boolean");
+            String[] others = test ? new String[] {"true", "false"} : new String[] {"0", "-1", "-2"};
+            for (String other : others) replace(start(node.getExpression()), end(node.getExpression()), other);
+        }
+        return super.visitReturn(node, v);
+    }
+
+    @Override
+    public Void visitIdentifier(IdentifierTree node, Void v) {
+        String other = TWIN.get(node.getName().toString());
+        if (other != null) replace(start(node), end(node), other);
+        return super.visitIdentifier(node, v);
     }
 
     @Override
