@@ -484,7 +484,7 @@ public final class RiskDesk {
                 most = Math.min(most, it.limit - it.discs.joined(x, y, ALL, 0));
             }
         }
-        return Math.max(most, 0);
+        return most;
     }
 
     public int places(int sum, int peril) {

@@ -55,7 +55,9 @@ final class EdgesOfOneMore extends Edges {
                 "anew", "treaty(1, 6, 9) = 0; write(6, 7, 2, 0) = 0; write(11, 9, 2, 0) = 1; write(1, 9, 1, 0) = 2",
                 "about(0, 8, 0) = 4; worst(0, 0) = 5",
                 "anew", "treaty(1, 4, 9) = 0; write(3, 3, 1, 0) = 0; write(2, 6, 2, 0) = 1; write(0, 8, 2, 0) = 2",
-                "about(0, 8, 8) = 4; worst(0, 0) = 5");
+                "about(0, 8, 8) = 4; worst(0, 0) = 5",
+                "anew", "treaty(1, 4, 9) = 0; write(5, 6, 1, 0) = 0; write(2, 1, 3, 0) = 1; write(3, 8, 1, 0) = 2",
+                "about(0, 1, 4) = 5; worst(0, 0) = 5");
         anew();
         // of 24 some with numbers far from one another
         int[][] those = {{1, 1, 6, 1}, {4, 10, 7, 9}, {7, 3, 0, 4}, {8, 10, 6, 4}, {17, 5, 4, 5}, {18, 2, 2, 8}, {21, 3, 8, 6},

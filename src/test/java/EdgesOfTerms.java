@@ -142,6 +142,9 @@ final class EdgesOfTerms extends Edges {
         due("text(20) = -1; fault(0) = 1; fault(1) = 15");
         feed("policy 1 1 1 1;policy ");
         due("text(22) = -1; fault(0) = 1; fault(1) = 22");
+        // nor do the digits behind it count
+        feed("policy 1 1 1 12;");
+        due("text(14) = -1; fault(0) = 1; fault(1) = 14");
 
         edge("T1", "2 too much (at it): a number beyond what is said; a 25th policy, a seventh treaty (at the word).");
         faulty("policy 300 1 1 1;", 2, 7);
@@ -244,6 +247,9 @@ final class EdgesOfTerms extends Edges {
                 // 1 has lapsed, 2 comes to where it would have gone with 0 and 1; another 1 goes with 0 alone
                 "anew", "treaty(1, 5, 9) = 0; write(50, 50, 1, 0) = 0; write(60, 50, 1, 0) = 1; write(200, 200, 1, 0) = 2",
                 "lapse(1) = 1; move(2, 55, 50) = 43525; write(40, 50, 1, 0) = 1; worst(0, 0) = 2; worst(0, 1) = 2",
+                // the same, with the numbers of both changed
+                "anew", "treaty(1, 5, 9) = 0; write(60, 50, 1, 0) = 0; write(50, 50, 1, 0) = 1; write(200, 200, 1, 0) = 2",
+                "lapse(0) = 1; move(2, 55, 50) = 43525; write(40, 50, 1, 0) = 0; worst(0, 0) = 2; worst(0, 1) = 2",
                 // the same with one of another peril in the place of the one that has lapsed
                 "anew", "treaty(1, 5, 9) = 0; write(50, 50, 1, 0) = 0; write(60, 50, 1, 1) = 1; write(55, 50, 1, 0) = 2; lapse(1) = 1",
                 "write(40, 50, 1, 0) = 1; worst(0, 0) = 2; worst(0, 1) = 2");

@@ -133,7 +133,18 @@ final class EdgesOfWorst extends Edges {
                 "anew", "treaty(1, 300, 9) = 0; write(0, 25, 1, 0) = 0; write(10, 45, 1, 0) = 1; write(45, 40, 1, 0) = 2",
                 "write(32, 1, 1, 0) = 3",
                 // a place that two of them share
-                "write(45, 40, 1, 0) = 4; ring(0, 3) = 2; lapse(2) = 1; ring(0, 2) = 0; ring(0, 3) = 3; ring(0, 4) = 4");
+                "write(45, 40, 1, 0) = 4; ring(0, 3) = 2; lapse(2) = 1; ring(0, 2) = 0; ring(0, 3) = 3; ring(0, 4) = 4",
+                // three that have all in their circle, but an angle of more than 90 degrees: at the third, the second, the first
+                "anew", "treaty(1, 5, 9) = 0; write(2, 1, 1, 0) = 0; write(2, 6, 1, 0) = 1; write(1, 4, 1, 0) = 2",
+                "write(6, 4, 1, 0) = 3; ring(0, 0) = 125; ring(0, 1) = 16; ring(0, 2) = 0; ring(0, 3) = 1; ring(0, 4) = 3",
+                "anew", "treaty(1, 5, 9) = 0; write(1, 4, 1, 0) = 0; write(3, 1, 1, 0) = 1; write(5, 0, 1, 0) = 2",
+                "write(6, 7, 1, 0) = 3; ring(0, 0) = 425; ring(0, 1) = 32; ring(0, 2) = 0; ring(0, 3) = 2; ring(0, 4) = 3",
+                "anew", "treaty(1, 7, 9) = 0; write(10, 8, 1, 0) = 0; write(2, 10, 1, 0) = 1; write(8, 1, 1, 0) = 2",
+                "write(12, 7, 1, 0) = 3; ring(0, 0) = 18421; ring(0, 1) = 576; ring(0, 2) = 1; ring(0, 3) = 2; ring(0, 4) = 3",
+                // one that is not of WORST, with two that are
+                "anew", "treaty(1, 7, 9) = 0; write(14, 11, 1, 0) = 0; write(7, 12, 2, 0) = 1; write(10, 1, 1, 0) = 2",
+                "write(0, 8, 3, 0) = 3; worst(0, 1) = 3; inWorst(0, 0) = 1; ring(0, 0) = 629525; ring(0, 1) = 15842",
+                "ring(0, 2) = 1; ring(0, 3) = 2; ring(0, 4) = 3");
         holds("17", "-2: WORST is empty;",
                 "treaty(1, 5, 9) = 0; ring(0, 0) = -2; ring(0, 1) = -2; ring(0, 2) = -2; ring(0, 3) = -2; ring(0, 4) = -2",
                 "write(0, 0, 1, 1) = 0; ring(0, 0) = -2; write(0, 0, 1, 0) = 1; ring(0, 0) = 0");
